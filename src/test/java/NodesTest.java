@@ -155,6 +155,15 @@ public final class NodesTest {
         y.term(0, 0, 0, 0);
         y.unify(0, 99);
         checks.due("ground", y.size(98), 1000000);
+        DatatypeTerms z = peano();
+        z.term(0, 0, 0, 0);
+        for (int node = 1; node < 100; node++) {
+            z.term(1, node - 1, 0, 0);
+        }
+        checks.due("100 nodes deep", z.size(99), 100);
+        checks.due("100 nodes deep", z.rank(99), -10);
+        checks.due("100 nodes deep", z.equal(99, 99), 1);
+        checks.due("100 nodes deep", z.equal(98, 99), 0);
     }
 
     private static void promise19Rank() {

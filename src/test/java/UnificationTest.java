@@ -140,6 +140,23 @@ public final class UnificationTest {
         x.unify(0, leaf);
         checks.due("huge clash", x.unify(94, 97), -7);
         checks.due("boundCount()", x.boundCount(), 2);
+        clashBehindHugeTerms();
+    }
+
+    private static void clashBehindHugeTerms() {
+        DatatypeTerms x = trees();
+        int left = x.variable(0);
+        int right = x.variable(0);
+        for (int i = 0; i < 45; i++) {
+            left = x.term(2, left, left, 0);
+            right = x.term(2, right, right, 0);
+        }
+        int leaf = x.term(0, 0, 0, 0);
+        int one = x.term(1, leaf, 0, 0);
+        checks.due("clash behind", x.unify(x.term(2, left, leaf, 0), x.term(2, right, one, 0)), -7);
+        checks.due("boundCount()", x.boundCount(), 0);
+        checks.due("no clash", x.unify(x.term(2, left, leaf, 0), x.term(2, right, leaf, 0)), 1);
+        checks.due("boundCount()", x.boundCount(), 1);
     }
 
     private static void promise21DeepTerms() {
