@@ -458,10 +458,9 @@ final class RowBoundaries {
         b.due("a subject type with one value", x.firstUncovered(8), -13);
         Counted first = values(2001);
         first.clearRows();
-        first.addRow(first.term(9, first.value(2, 3, 0), first.nodeCount() - 1, 0));
-        int three = first.nodeCount() - 1;
+        int three = first.value(2, 3, 0);
         int one = first.value(1, 1, 0);
-        first.addRow(first.term(9, three, three, one));
+        b.due("a row for one value of size 8", first.addRow(first.term(9, three, three, one)), 0);
         b.due("a value of size 2 is not covered", first.firstUncovered(7), 20000);
         b.due("too large comes before it", first.firstUncovered(8), -10);
     }

@@ -25,7 +25,7 @@ final class Twins {
 
     private static final Look[] LOOKS = {
         Twins::signature, Twins::nodes, Twins::children, Twins::bindings, Twins::terms,
-        Twins::savedBindings, Twins::rows, Twins::roomForRows
+        Twins::savedBindings, Twins::rows, Twins::roomForRows, Twins::laterUnification, Twins::laterNodes
     };
 
     private final Checks checks;
@@ -160,5 +160,33 @@ final class Twins {
         }
         seen.add(x.clearRows());
         seen.add(x.push());
+    }
+
+    private static void laterUnification(Counted x, List<Integer> seen) {
+        int total = x.nodeCount();
+        for (int node = 1; node < total; node++) {
+            seen.add(x.unify(node, node - 1));
+        }
+        for (int node = 0; node < total; node++) {
+            seen.add(x.binding(node));
+        }
+    }
+
+    private static void laterNodes(Counted x, List<Integer> seen) {
+        int total = x.nodeCount();
+        for (int type = 0; type < 4; type++) {
+            seen.add(x.value(type, 3, 0));
+            seen.add(x.variable(type));
+        }
+        for (int constructor = 0; constructor < 12; constructor++) {
+            seen.add(x.term(constructor, 0, 0, 0));
+        }
+        int later = x.nodeCount();
+        for (int node = total; node < later; node++) {
+            seen.add(x.head(node));
+            seen.add(x.child(node, 0));
+            seen.add(x.child(node, 1));
+            seen.add(x.binding(node));
+        }
     }
 }

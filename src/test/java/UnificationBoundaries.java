@@ -21,6 +21,7 @@ final class UnificationBoundaries {
         failureIsUndone();
         unifyAgain();
         neighbours();
+        unifyAfterFailure();
         greatTerms();
         clashBehindGreatTerms();
         boundCount();
@@ -319,6 +320,24 @@ final class UnificationBoundaries {
         b.due("what succeeded before clashes now", x.unify(left, right), -7);
         x.unbindAll();
         b.due("what clashed before succeeds now", x.unify(left, right), 1);
+    }
+
+    /** What a failed unification left undone is not done by a later one. */
+    private void unifyAfterFailure() {
+        Counted x = Boundaries.treesWithVariables(6);
+        int leaf = x.term(0, 0, 0, 0);
+        int one = x.term(1, leaf, 0, 0);
+        int left = x.term(3, leaf, 0, 1);
+        int right = x.term(3, one, 2, 3);
+        b.due("a clash with two pairs left", x.unify(left, right), -7);
+        b.due("a later one", x.unify(4, 5), 1);
+        b.due("binds its own variable", x.binding(5), 4);
+        b.due("and no other", x.boundCount(), 1);
+        int cycle = x.term(3, x.term(1, 0, 0, 0), 2, 3);
+        b.due("a cycle with two pairs left", x.unify(x.term(3, 0, 1, 1), cycle), -8);
+        b.due("a later one", x.unify(4, leaf), 1);
+        b.due("binds its own variable", x.binding(4), leaf);
+        b.due("and no other", x.boundCount(), 2);
     }
 
     /** Pairs of nodes that are near one another are different pairs. */
