@@ -20,6 +20,11 @@ final class Boundaries {
         document.quote("Description", words);
     }
 
+    /** The checks that follow look at these words of a section that has this title. */
+    void saysIn(String title, String words) {
+        document.quote(title, words);
+    }
+
     void due(String call, int got, int want) {
         checks.due(call, got, want);
     }

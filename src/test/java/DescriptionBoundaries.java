@@ -1,4 +1,4 @@
-/** The boundary cases of the section 'Description' that belong to no promise alone. */
+/** The boundary cases of the sections 'What it is', 'Description' and 'Not promised'. */
 final class DescriptionBoundaries {
     private final Boundaries b;
 
@@ -16,6 +16,8 @@ final class DescriptionBoundaries {
         nodes();
         terms();
         all512Calls();
+        laterCalls();
+        notPromised();
     }
 
     /** RefusalTest looks at each method and each combination of its errors. */
@@ -198,6 +200,9 @@ final class DescriptionBoundaries {
 
     /** The dearest calls, up to the last that is promised. */
     private void all512Calls() {
+        b.saysIn("What it is", "Algebraic data types: counting and enumerating their values, terms with variables,"
+                + " unification with an occurs check, and coverage of pattern-match rows.");
+        b.saysIn("What it is", "An object is used for at most 512 calls after it has been made;");
         Counted x = Boundaries.withTypes(2);
         for (int i = 0; i < 10; i++) {
             x.addConstructor(0, 0, 0, 0, 0);
@@ -222,5 +227,35 @@ final class DescriptionBoundaries {
             b.due("a cycle", y.unify(0, 2), -8);
         }
         b.due("call 512", y.unify(1, 2), 1);
+    }
+
+    /** They may answer anything, but LANGUAGE.md (rule 7) lets no call throw or fail to end. */
+    private void laterCalls() {
+        b.saysIn("What it is", "what later calls answer is free.");
+        DatatypeTerms x = new DatatypeTerms();
+        int made = 0;
+        for (int round = -2; round < 600; round++) {
+            made += x.addType() & x.addConstructor(round % 4, round % 4, 0, 1, 2) & x.resultType(round)
+                    & x.arity(round) & x.argumentType(round, 0) & x.cardinality(round) & x.smallestSize(round);
+            made += x.count(round % 4, round % 14) & x.value(round % 4, round % 14, round) & x.variable(round % 4)
+                    & x.term(round % 12, round, round - 1, round - 2) & x.nodeCount() & x.nodeType(round);
+            made += x.head(round) & x.child(round, 1) & x.binding(round) & x.size(round) & x.rank(round)
+                    & x.equal(round, round / 2) & x.unify(round % 100, round / 6) & x.boundCount() & x.push();
+            made += x.addRow(round % 100) & x.firstMatch(round % 100) & x.uncovered(round % 10)
+                    & x.firstUncovered(round % 10) & x.coveredBy(round % 9, round % 10);
+            if (round % 50 == 0) {
+                made += x.pop() & x.unbindAll() & x.clearRows();
+            }
+        }
+        b.holds("all later calls came to an end with a sum of answers, " + made, true);
+    }
+
+    /** Nothing to look at but the words: a new sentence here should be read. */
+    private void notPromised() {
+        b.saysIn("Not promised", "How the state is held inside the object is free, as are the speed of each call,"
+                + " the text of toString and the behaviour of equals and hashCode.");
+        b.saysIn("Not promised", "Use of one object from several threads at once is not promised to be safe.");
+        b.saysIn("Not promised", "Nothing is promised beyond the answers and state changes described above,"
+                + " and nothing about an object after its 512th call.");
     }
 }

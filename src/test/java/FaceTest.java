@@ -25,12 +25,14 @@ public final class FaceTest {
         "OUT_OF_RANGE", "WRONG_TYPE", "FULL", "CLASH", "CYCLE", "NOT_GROUND", "TOO_LARGE", "NO_ROWS",
         "EMPTY", "NONE", "INFINITE", "MANY"};
 
-    public static void main(String[] args) throws IOException {
+    public static void main(String[] args) throws IOException, ReflectiveOperationException {
         publicMethods();
         publicConstants();
         noOtherMembers();
         String root = System.getProperty("project.root", ".");
         String source = Files.readString(Path.of(root, "src/main/java/DatatypeTerms.java"));
+        faceOfTheDocument(source);
+        signaturesOfPromises();
         forbiddenWords(withoutComments(source));
         namesOfMethods(withoutComments(source));
         checks.end();
@@ -59,6 +61,40 @@ public final class FaceTest {
             }
         }
         checks.holds("the public constants are " + got, got.equals(new TreeSet<>(Arrays.asList(CONSTANTS))));
+    }
+
+    /** Each line of the document's face stands in the source, with the same names and numbers. */
+    private static void faceOfTheDocument(String source) throws ReflectiveOperationException {
+        int constants = 0;
+        int methods = 0;
+        for (String line : Document.section(Document.FACE).split("\n")) {
+            if (line.endsWith(";")) {
+                String inSource = line.contains("(") ? line.replace(";", " {") : line;
+                checks.holds("the source has: " + line.trim(), source.contains("\n" + inSource + "\n"));
+                methods += line.contains("(") ? 1 : 0;
+            }
+            Matcher constant = Pattern.compile("([A-Z_]+) = (-?\\d+)").matcher(line);
+            while (constant.find()) {
+                constants++;
+                checks.due(constant.group(1), DatatypeTerms.class.getField(constant.group(1)).getInt(null),
+                        Integer.parseInt(constant.group(2)));
+            }
+        }
+        checks.due("constants of the document", constants, CONSTANTS.length);
+        checks.due("methods of the document, and its constructor", methods, METHODS.length + 1);
+    }
+
+    /** The promises are one for each member of the face, in its order. */
+    private static void signaturesOfPromises() {
+        String[] face = Arrays.stream(Document.section(Document.FACE).split("\n"))
+                .filter(line -> line.contains("("))
+                .map(line -> line.replace("public", "").replace(";", "").trim())
+                .toArray(String[]::new);
+        for (int i = 0; i < face.length; i++) {
+            String promise = "Promise " + (i + 1);
+            checks.holds(promise + " is that of " + face[i],
+                    Document.section(promise).contains("\n`" + face[i] + "`\n"));
+        }
     }
 
     private static void noOtherMembers() {
